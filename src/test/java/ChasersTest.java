@@ -8,6 +8,7 @@ public final class ChasersTest {
         wayOfHalfADay();
         steps();
         stepsBackward();
+        wanted();
         overruns();
         there();
         tooFar();
@@ -91,6 +92,27 @@ public final class ChasersTest {
             due("speed " + i, x.chaser(2, 1), speeds[i]);
         }
         due("there", x.there(2), 0);
+    }
+
+    /** At each SPEED: WAY is just enough for it, or by one FRAME too short. */
+    private static void wanted() {
+        for (int k = 1; k <= 99; k++) {
+            int sum = k * (k + 1) / 2;
+            for (int sign = -1; sign <= 1; sign += 2) {
+                FrameClocks x = new FrameClocks();
+                x.offsets(0, 99999 * sign);
+                x.chases(0, k);
+                due("speed", x.chaser(0, 1), sign * k);
+                x.offsets(0, sign * (sum + sum));
+                due("way", x.chaser(0, 3), sign * sum);
+                x.chases(0, 1);
+                due("enough for " + k, x.chaser(0, 1), sign * k);
+                x.undo();
+                x.offsets(0, sign * (sum + sum - 1));
+                x.chases(0, 1);
+                due("too short for " + k, x.chaser(0, 1), sign * (k - 1));
+            }
+        }
     }
 
     /** A target that comes nearer all at once is overrun: SPEED turns by one a step. */

@@ -6,6 +6,7 @@ public final class FramesTest {
         newObject();
         rates();
         wrapsByRates();
+        segmentsWrapForGood();
         readingStaysByRates();
         numbers();
         framesOfNumbers();
@@ -94,6 +95,31 @@ public final class FramesTest {
         due("undo", x.undo(), 6);
         due("wheel is as it was", x.wheel(0), 2591994);
         due("place is as it was", x.chaser(1, 0), 2590994);
+    }
+
+    private static void segmentsWrapForGood() {
+        FrameClocks x = new FrameClocks();
+        x.rates(2);
+        x.lays(2591990, 1, 0);
+        x.lays(2160001, 2, 0);
+        x.rates(1);
+        x.rates(2);
+        x.plays(48, 20, 0, 0);
+        due("segment 0", x.reading(0), 2591990 - 2160000);
+        x.plays(48, 20, 0, 0);
+        due("segment 1", x.reading(0), 1);
+        FrameClocks y = new FrameClocks();
+        y.rates(2);
+        y.lays(2591000, 3, 0);
+        y.plays(144, 20, 0, 0);
+        for (int c = 0; c < 3; c++) {
+            y.chases(c, 20);
+            due("place " + c, y.chaser(c, 0), 2592000 - 19 * 20 / 2 - 20);
+        }
+        y.rates(0);
+        for (int c = 0; c < 3; c++) {
+            due("place " + c + " by rate 0", y.chaser(c, 0), 2592000 - 19 * 20 / 2 - 20 - 2073600);
+        }
     }
 
     private static void readingStaysByRates() {

@@ -7,6 +7,7 @@ public final class ReaderTest {
         lowestCell();
         fortyEightBits();
         forward();
+        readByAnotherRate();
         backward();
         bothSyncs();
         broken();
@@ -85,6 +86,14 @@ public final class ReaderTest {
         due("streak", x.reader(7), 1);
         due("jumps", x.reader(6), 0);
         due("not locked: the wheel stays", x.wheel(0), 0);
+        x.rates(0);
+        Checks.give(x, Checks.word(19, 49, 39, 19, 0, 0));
+        due("nines", x.reading(1), 19493919);
+    }
+
+    private static void readByAnotherRate() {
+        FrameClocks x = new FrameClocks();
+        Checks.give(x, Checks.word(12, 34, 56, 7, 0, 13));
         x.rates(0);
         due("the frame stays", x.reading(0), ((12 * 60 + 34) * 60 + 56) * 25 + 7);
     }

@@ -114,7 +114,11 @@ public final class TapeTest {
         due("backward", x.plays(4800, 1, 0, 1), 96);
         due("head", x.count(4), 0);
         due("one", x.plays(1, 20, 0, 0), 1);
-        due("done", x.count(6), 4);
+        due("the only one there", x.plays(2, 20, 0, 1), 1);
+        x.winds(95);
+        due("the last one", x.plays(9, 20, 0, 0), 1);
+        due("head", x.count(4), 96);
+        due("done", x.count(6), 7);
     }
 
     private static void playsPartly() {

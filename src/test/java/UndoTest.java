@@ -4,6 +4,7 @@ public final class UndoTest {
 
     public static void main(String[] args) {
         eachCallIsUndone();
+        eachPartComesBack();
         eightAreKnown();
         undoneAndDoneAgain();
         seenStays();
@@ -96,6 +97,41 @@ public final class UndoTest {
             due("the answer is the same again", doCall(x, which), answer);
             dueAll("done again " + which, x, behind);
         }
+    }
+
+    /** Each part of a READING, a BROKEN one, BITS, the way of THE WHEEL. */
+    private static void eachPartComesBack() {
+        FrameClocks x = new FrameClocks();
+        x.lays(100, 3, 1);
+        x.lays(200, 3, 2);
+        x.plays(144, 20, 0, 0);
+        int[] ahead = all(x);
+        x.plays(144, 20, 0, 0);
+        due("user", x.reading(2), 2);
+        x.undo();
+        dueAll("a reading", x, ahead);
+        x.winds(288);
+        ahead = all(x);
+        x.plays(288, 20, 0, 1);
+        due("it goes backward", x.wheel(1), -1);
+        x.undo();
+        dueAll("backward", x, ahead);
+        int[] word = Checks.word(0, 0, 0, 0, 1, 0);
+        Checks.give(x, java.util.Arrays.copyOf(word, 47));
+        x.edge(20);
+        x.edge(20);
+        due("broken", x.reader(4), 1);
+        x.undo();
+        due("broken", x.reader(4), 0);
+        x.edge(20);
+        due("broken again", x.reader(4), 1);
+        x.undo();
+        x.undo();
+        x.edge(40);
+        x.undo();
+        x.edge(20);
+        due("the same 47 bits", x.edge(20), 0);
+        due("broken", x.reader(4), 1);
     }
 
     private static void eightAreKnown() {
@@ -221,11 +257,41 @@ public final class UndoTest {
         }
         due("back(0) again", x.back(0), 2);
         dueAll("image 0 again", x, ahead);
+        tapesOfImages();
         x.holds(50);
         due("keep(0) anew", x.keep(0), 2);
         x.holds(51);
         x.back(0);
         due("hold", x.wheel(3), 50);
+    }
+
+    private static void tapesOfImages() {
+        FrameClocks x = new FrameClocks();
+        x.lays(70, 2, 3);
+        int[] ahead = all(x);
+        x.keep(0);
+        x.undo();
+        x.lays(900, 4, 12);
+        x.lays(901, 5, 13);
+        due("back(0)", x.back(0), 1);
+        dueAll("a tape's image", x, ahead);
+        x.lays(902, 6, 14);
+        x.keep(1);
+        due("back(0)", x.back(0), 1);
+        dueAll("a tape's image again", x, ahead);
+        due("back(1)", x.back(1), 2);
+        due("bits", x.count(3), 48 * 8);
+        FrameClocks y = new FrameClocks();
+        y.lays(70, 2, 3);
+        y.lays(170, 6, 4);
+        ahead = all(y);
+        y.keep(1);
+        y.undo();
+        y.undo();
+        y.lays(900, 7, 12);
+        y.lays(901, 1, 13);
+        due("back(1)", y.back(1), 2);
+        dueAll("two segments", y, ahead);
     }
 
     private static void imagesAndUndo() {
