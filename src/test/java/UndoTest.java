@@ -230,6 +230,10 @@ public final class UndoTest {
         due("the rate is none of it", x.unseen(), 8);
         x.sees(10001, 1801);
         due("all three", x.unseen(), 0);
+        due("forget()", x.forget(), 3);
+        due("nothing is left of it", x.unseen(), 15);
+        x.sees(0, 0);
+        due("nor behind what is seen anew", x.unseen(), 15);
     }
 
     private static void dueUnseen(int number, int frame, int bits) {
