@@ -143,10 +143,11 @@ public final class ChasersTest {
         x.chases(1, 1);
         due("way is 0, speed not", x.chaser(1, 3), 0);
         due("there(1)", x.there(1), 1);
-        for (int offset = 2; offset < 60000; offset = 2 * offset + 1) {
+        for (int offset = 2; offset < 5000; offset = 2 * offset + 1) {
             FrameClocks y = new FrameClocks();
             y.offsets(0, offset);
             int steps = y.there(0);
+            due("few enough to look at each", steps < 160 ? 1 : 0, 1);
             for (int i = 0; i + 1 < steps; i++) {
                 y.chases(0, 1);
                 if (y.chaser(0, 1) == 0 && y.chaser(0, 3) == 0) {

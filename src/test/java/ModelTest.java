@@ -2,8 +2,11 @@ import java.util.Random;
 
 /** Random runs (always the same ones) of calls on the class and on the slow model. */
 public final class ModelTest {
-    private static final int RUNS = 1500;
+    private static final int RUNS = 3000;
+    /** No object is promised to answer more calls. */
     private static final int CALLS = 512;
+    private static final int CALLS_OF_ASK_ALL = 56;
+    private static final int MOST_CALLS_OF_A_WORD = 96;
     private static final Checks CHECKS = new Checks();
     private static final int[] EDGES = {Integer.MIN_VALUE, FrameClocks.NO, -100000, -10, -9, -8, -2, -1, 16, 41, 100,
         201, 1001, 4801, 10000, 2073600, 2589408, 23596000, Integer.MAX_VALUE};
@@ -38,18 +41,19 @@ public final class ModelTest {
     }
 
     private void go(int[] met) {
-        while (calls < CALLS && wrong == 0) {
+        while (calls < CALLS - CALLS_OF_ASK_ALL - MOST_CALLS_OF_A_WORD && wrong == 0) {
             call();
-            if (random.nextInt(8) == 0) {
+            if (random.nextInt(60) == 0 && calls < CALLS / 2) {
                 askAll();
             }
         }
         askAll();
-        met[0] += x.reader(3);
-        met[1] += x.reader(4);
-        met[2] += x.reader(6);
-        met[3] += x.wheel(4);
-        met[4] += x.reading(3) == -1 ? 1 : 0;
+        CHECKS.due("run " + run + " ends in time", calls <= CALLS ? 1 : 0, 1);
+        met[0] += m.reader(3);
+        met[1] += m.reader(4);
+        met[2] += m.reader(6);
+        met[3] += m.wheel(4);
+        met[4] += m.reading(3) == -1 ? 1 : 0;
     }
 
     private void same(String call, int got, int want) {
@@ -231,9 +235,7 @@ public final class ModelTest {
         }
     }
 
-    /** These do not count as calls of the run: asked changes nothing. */
     private void askAll() {
-        int before = calls;
         for (int i = 0; i < 8; i++) {
             same("count(" + i + ")", x.count(i), m.count(i));
             same("reader(" + i + ")", x.reader(i), m.reader(i));
@@ -243,6 +245,5 @@ public final class ModelTest {
                 same("chaser(" + c + ", " + i + ")", x.chaser(c, i), m.chaser(c, i));
             }
         }
-        calls = before;
     }
 }

@@ -178,10 +178,10 @@ public final class ReaderTest {
 
     private static void streaksAndJumps() {
         FrameClocks x = new FrameClocks();
-        int[] frames = {5, 6, 7, 8, 8, 9, 7, 8};
-        int[] streaks = {1, 2, 3, 4, 1, 2, 1, 2};
-        int[] jumps = {0, 0, 0, 0, 1, 1, 2, 2};
-        int[] wheels = {0, 0, 7, 8, 8, 8, 8, 8};
+        int[] frames = {5, 6, 7, 7, 8, 6};
+        int[] streaks = {1, 2, 3, 1, 2, 1};
+        int[] jumps = {0, 0, 0, 1, 1, 2};
+        int[] wheels = {0, 0, 7, 7, 7, 7};
         for (int i = 0; i < frames.length; i++) {
             Checks.give(x, Checks.word(0, 0, 0, frames[i], 0, 0));
             due("streak " + i, x.reader(7), streaks[i]);

@@ -20,9 +20,9 @@ public final class UndoTest {
         CHECKS.due(call, got, want);
     }
 
-    /** All that can be asked for, but SEEN and how many may be UNDONE. */
+    /** All that can be asked for, but SEEN and how many may be UNDONE; of THE TAPE some 40 BITS, as 512 calls are the most. */
     private static int[] all(FrameClocks x) {
-        int[] all = new int[48 * 240 + 40];
+        int[] all = new int[100];
         int at = 0;
         for (int i = 0; i < 5; i++) {
             all[at++] = x.count(i);
@@ -37,7 +37,8 @@ public final class UndoTest {
                 all[at++] = x.chaser(c, i);
             }
         }
-        for (int h = 0; h < x.count(3); h++) {
+        int bits = x.count(3);
+        for (int h = 0; h < bits; h += 1 + bits / 40) {
             all[at++] = x.bit(h);
         }
         return all;
