@@ -78,7 +78,7 @@ final class Run {
         }
     }
 
-    private static int value(String text) {
+    static int value(String text) {
         switch (text) {
             case "BAD": return FrameClocks.BAD;
             case "STATE": return FrameClocks.STATE;
